@@ -192,6 +192,21 @@ public final class OnionCircuitsPromises {
         due("3: the new cell's byte", x.byteGot(0, 0, FAR_END, 0), 77);
     }
 
+    private static void destroyFreesEveryRelayAndStream() {
+        OnionCircuits x = new OnionCircuits(1);
+        for (int first = 0; first < 5; first++) {
+            for (int i = 0; i < 3; i++) {
+                due("3: a relay of before", x.extend(0, (first + i) % 5), i + 1);
+            }
+            for (int stream = 0; stream < 3; stream++) {
+                due("3: a stream of before", x.open(0, stream), 2);
+                due("3: its window forward", x.send(0, stream, 1), 1);
+                due("3: its window backward", x.reply(0, stream, 1), 1);
+            }
+            due("3: cells of all streams", x.destroy(0), 6);
+        }
+    }
+
     private static void open() {
         OnionCircuits x = new OnionCircuits(1);
         for (int c : WRONG_CIRCUITS) {
@@ -320,6 +335,9 @@ public final class OnionCircuitsPromises {
         x.extend(0, 0);
         x.open(0, 0);
         x.send(0, 0, 1);
+        x.extend(1, 0);
+        x.open(1, 0);
+        x.send(1, 0, 1);
         String before = state(x);
         for (int l : WRONG_THIRDS) {
             due("7: move on link " + l, x.move(0, l, FORWARD), NOTHING);
@@ -335,6 +353,7 @@ public final class OnionCircuitsPromises {
         }
         sameState("7: refused calls", before, x);
         due("7: the cell is as it was", x.move(0, 0, FORWARD), 1);
+        due("7: the other circuit's cell too", x.move(1, 0, FORWARD), 1);
     }
 
     private static void moveForward() {
@@ -471,6 +490,16 @@ public final class OnionCircuitsPromises {
         due("8: the older cell was ahead", y.move(0, 1, FORWARD), 1);
         due("8: the younger one follows", y.move(0, 0, FORWARD), 0);
         due("8: the younger one was tampered with", y.move(0, 1, FORWARD), 2);
+
+        OnionCircuits z = withStream(2);
+        z.send(0, 0, 1);
+        z.send(0, 0, 2);
+        z.tamper(0, 0, FORWARD, 4);
+        z.move(0, 0, FORWARD);
+        z.tamper(0, 1, FORWARD, 4);
+        due("8: the first one is whole again", z.move(0, 1, FORWARD), 1);
+        due("8: the one behind it follows", z.move(0, 0, FORWARD), 0);
+        due("8: the one behind it was never touched", z.move(0, 1, FORWARD), 1);
     }
 
     private static void got() {
@@ -641,6 +670,7 @@ public final class OnionCircuitsPromises {
         destroyCountsCells();
         destroyForgets();
         destroyEmptiesWindows();
+        destroyFreesEveryRelayAndStream();
         open();
         refusedOpenKeepsTheStream();
         sendAndReplyRefusals();

@@ -1,0 +1,128 @@
+import java.io.IOException;
+import java.lang.reflect.Constructor;
+import java.lang.reflect.Field;
+import java.lang.reflect.Method;
+import java.lang.reflect.Modifier;
+import java.nio.file.Files;
+import java.nio.file.Path;
+import java.util.Set;
+import java.util.TreeSet;
+import java.util.regex.Matcher;
+import java.util.regex.Pattern;
+
+// The public face that DOC.md gives, and those rules of LANGUAGE.md that a glance at the class can tell.
+public final class OnionCircuitsFace {
+    private static final Path SOURCE = Path.of("src/main/java/OnionCircuits.java");
+
+    private static final Set<String> FACE = Set.of(
+        "public static final int BAD_CIRCUIT",
+        "public static final int BAD_RELAY",
+        "public static final int BAD_STREAM",
+        "public static final int FULL",
+        "public static final int NO_CIRCUIT",
+        "public static final int WINDOW",
+        "public static final int NOTHING",
+        "public static final int OPEN",
+        "public OnionCircuits(int)",
+        "public int extend(int,int)",
+        "public int destroy(int)",
+        "public int open(int,int)",
+        "public int send(int,int,int)",
+        "public int reply(int,int,int)",
+        "public int move(int,int,boolean)",
+        "public int tamper(int,int,boolean,int)",
+        "public int got(int,int,boolean)",
+        "public int byteGot(int,int,boolean,int)",
+        "public int waiting(int,int,boolean)",
+        "public int hops(int)");
+
+    private static final String[] BANNED = {
+        "import", "package", "null", "throw", "throws", "try", "catch", "synchronized", "assert", "instanceof",
+        "float", "double", "String", "Math", "Integer", "System", "Arrays", "Object", "enum", "record", "interface"};
+
+    private static int wrong = 0;
+
+    private static void complain(String what) {
+        wrong++;
+        System.out.println(what);
+    }
+
+    private static void face() {
+        Class<?> type = OnionCircuits.class;
+        if (type.getModifiers() != (Modifier.PUBLIC | Modifier.FINAL)) {
+            complain("the class is " + Modifier.toString(type.getModifiers()));
+        }
+        Set<String> seen = new TreeSet<>();
+        for (Field field : type.getDeclaredFields()) {
+            if (!Modifier.isPrivate(field.getModifiers())) {
+                seen.add(Modifier.toString(field.getModifiers()) + " " + field.getType() + " " + field.getName());
+            }
+        }
+        for (Constructor<?> constructor : type.getDeclaredConstructors()) {
+            seen.add(constructor.toString());
+        }
+        for (Method method : type.getDeclaredMethods()) {
+            if (!Modifier.isPrivate(method.getModifiers())) {
+                seen.add(method.toString().replace("OnionCircuits.", ""));
+            }
+        }
+        if (!seen.equals(FACE)) {
+            complain("the face is " + seen + ", due is " + new TreeSet<>(FACE));
+        }
+        if (type.getDeclaredClasses().length != 0) {
+            complain("rule 1: there is a nested class");
+        }
+    }
+
+    private static void membersKeepToTheRules() {
+        int fields = 0;
+        for (Field field : OnionCircuits.class.getDeclaredFields()) {
+            boolean number = field.getType() == int.class || field.getType() == long.class;
+            if (!Modifier.isStatic(field.getModifiers())) {
+                fields++;
+            } else if (!number || !Modifier.isFinal(field.getModifiers())) {
+                complain("rule 5: " + field);
+            }
+        }
+        if (fields > 40) {
+            complain("rule 10: " + fields + " fields");
+        }
+        Set<String> names = new TreeSet<>();
+        for (Method method : OnionCircuits.class.getDeclaredMethods()) {
+            if (!names.add(method.getName())) {
+                complain("rule 1: two methods are named " + method.getName());
+            }
+            if (method.getParameterCount() > 7) {
+                complain("rule 10: " + method);
+            }
+        }
+    }
+
+    private static void wordsKeepToTheRules(String code) {
+        for (String word : BANNED) {
+            if (Pattern.compile("\\b" + word + "\\b").matcher(code).find()) {
+                complain("LANGUAGE.md bans: " + word);
+            }
+        }
+        Matcher made = Pattern.compile("^.*\\bnew\\b.*$", Pattern.MULTILINE).matcher(code);
+        while (made.find()) {
+            if (!made.group().matches("    private final (int|boolean)\\[] \\w+ = new (int|boolean)\\[[A-Z_]+];")) {
+                complain("rule 4: " + made.group());
+            }
+        }
+        Matcher nested = Pattern.compile("\\b(?!if|for|while|switch|return)\\w+\\([^()]*\\b\\w+\\(").matcher(code);
+        while (nested.find()) {
+            complain("rule 10: a call inside the arguments of a call: " + nested.group());
+        }
+    }
+
+    public static void main(String[] args) throws IOException {
+        face();
+        membersKeepToTheRules();
+        wordsKeepToTheRules(Files.readString(SOURCE).replaceAll("//.*", ""));
+        System.out.println(wrong == 0 ? "the face is as due" : wrong + " faults in the face");
+        if (wrong != 0) {
+            System.exit(1);
+        }
+    }
+}
