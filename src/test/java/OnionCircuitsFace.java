@@ -5,7 +5,9 @@ import java.lang.reflect.Method;
 import java.lang.reflect.Modifier;
 import java.nio.file.Files;
 import java.nio.file.Path;
+import java.util.Map;
 import java.util.Set;
+import java.util.TreeMap;
 import java.util.TreeSet;
 import java.util.regex.Matcher;
 import java.util.regex.Pattern;
@@ -15,14 +17,14 @@ public final class OnionCircuitsFace {
     private static final Path SOURCE = Path.of("src/main/java/OnionCircuits.java");
 
     private static final Set<String> FACE = Set.of(
-        "public static final int BAD_CIRCUIT",
-        "public static final int BAD_RELAY",
-        "public static final int BAD_STREAM",
-        "public static final int FULL",
-        "public static final int NO_CIRCUIT",
-        "public static final int WINDOW",
-        "public static final int NOTHING",
-        "public static final int OPEN",
+        "public static final int BAD_CIRCUIT = -1",
+        "public static final int BAD_RELAY = -2",
+        "public static final int BAD_STREAM = -3",
+        "public static final int FULL = -4",
+        "public static final int NO_CIRCUIT = -5",
+        "public static final int WINDOW = -6",
+        "public static final int NOTHING = -7",
+        "public static final int OPEN = -8",
         "public OnionCircuits(int)",
         "public int extend(int,int)",
         "public int destroy(int)",
@@ -40,6 +42,9 @@ public final class OnionCircuitsFace {
         "import", "package", "null", "throw", "throws", "try", "catch", "synchronized", "assert", "instanceof",
         "float", "double", "String", "Math", "Integer", "System", "Arrays", "Object", "enum", "record", "interface"};
 
+    private static final int DEEPEST_CALLS = 6;
+    private static final int LONGEST_METHOD = 60;
+
     private static int wrong = 0;
 
     private static void complain(String what) {
@@ -47,7 +52,13 @@ public final class OnionCircuitsFace {
         System.out.println(what);
     }
 
-    private static void face() {
+    private static String constant(Field field) throws IllegalAccessException {
+        boolean isStatic = Modifier.isStatic(field.getModifiers());
+        String value = isStatic ? " = " + field.get(null) : "";
+        return Modifier.toString(field.getModifiers()) + " " + field.getType() + " " + field.getName() + value;
+    }
+
+    private static void face() throws IllegalAccessException {
         Class<?> type = OnionCircuits.class;
         if (type.getModifiers() != (Modifier.PUBLIC | Modifier.FINAL)) {
             complain("the class is " + Modifier.toString(type.getModifiers()));
@@ -55,7 +66,7 @@ public final class OnionCircuitsFace {
         Set<String> seen = new TreeSet<>();
         for (Field field : type.getDeclaredFields()) {
             if (!Modifier.isPrivate(field.getModifiers())) {
-                seen.add(Modifier.toString(field.getModifiers()) + " " + field.getType() + " " + field.getName());
+                seen.add(constant(field));
             }
         }
         for (Constructor<?> constructor : type.getDeclaredConstructors()) {
@@ -116,10 +127,51 @@ public final class OnionCircuitsFace {
         }
     }
 
-    public static void main(String[] args) throws IOException {
+    private static Map<String, String> bodies(String code) {
+        Map<String, String> bodies = new TreeMap<>();
+        Pattern method = Pattern.compile("^    (?:public|private)[^;=\\n]*?(\\w+)\\([^\\n]*\\{\\n(.*?)^    }$",
+            Pattern.MULTILINE | Pattern.DOTALL);
+        Matcher found = method.matcher(code);
+        while (found.find()) {
+            bodies.put(found.group(1), found.group(2));
+        }
+        return bodies;
+    }
+
+    // Method by method, how deep its calls go; a round that still deepens after the limit is met is a recursion.
+    private static void callsKeepToTheRules(String code) {
+        Map<String, String> bodies = bodies(code);
+        if (bodies.size() != OnionCircuits.class.getDeclaredMethods().length + 1) {
+            complain("this test sees only the methods " + bodies.keySet());
+        }
+        Map<String, Integer> depths = new TreeMap<>();
+        for (int round = 0; round <= DEEPEST_CALLS; round++) {
+            for (String name : bodies.keySet()) {
+                int depth = 1;
+                for (String called : bodies.keySet()) {
+                    if (Pattern.compile("\\b" + called + "\\(").matcher(bodies.get(name)).find()) {
+                        depth = Math.max(depth, 1 + depths.getOrDefault(called, 1));
+                    }
+                }
+                depths.put(name, depth);
+            }
+        }
+        for (String name : bodies.keySet()) {
+            if (depths.get(name) > DEEPEST_CALLS) {
+                complain("rules 8 and 10: " + name + " recurs or calls too deep");
+            }
+            if (bodies.get(name).lines().count() > LONGEST_METHOD) {
+                complain("rule 10: " + name + " is too long");
+            }
+        }
+    }
+
+    public static void main(String[] args) throws IOException, IllegalAccessException {
+        String code = Files.readString(SOURCE).replaceAll("//.*", "");
         face();
         membersKeepToTheRules();
-        wordsKeepToTheRules(Files.readString(SOURCE).replaceAll("//.*", ""));
+        wordsKeepToTheRules(code);
+        callsKeepToTheRules(code);
         System.out.println(wrong == 0 ? "the face is as due" : wrong + " faults in the face");
         if (wrong != 0) {
             System.exit(1);
