@@ -50,7 +50,8 @@ public final class OnionCircuitsBoundaries {
     private static void due(String call, int answer, int want) {
         if (answer != want) {
             wrong++;
-            System.out.println(sentence + " on circuit " + here + ": " + call + " answered " + answer + ", due is " + want);
+            System.out.println(sentence + " on circuit " + here + ": " + call + " answered " + answer
+                + ", due is " + want);
         }
     }
 
@@ -1092,17 +1093,21 @@ public final class OnionCircuitsBoundaries {
     }
 
     private static void allBitsTogether() {
-        int[][] rows = {{1, 2, 3}, {1, 2, 4, 7}, {255, 15, 240}, {257, 1}, {-1, 255}, {128, -128}, {3, 512 + 3}, {5, 0, 5},
+        int[][] rows = {
+            {1, 2, 3}, {1, 2, 4, 7}, {255, 15, 240}, {257, 1}, {-1, 255}, {128, -128}, {3, 512 + 3}, {5, 0, 5},
             {1, 2}, {1, 2, 1}, {255, 254}, {128, 64, 32}, {256, 1}, {7, 7, 7}};
+        int undoneRows = 8;
         for (int i = 0; i < rows.length; i++) {
-            boolean undone = i < 8;
+            boolean undone = i < undoneRows;
             OnionCircuits x = withStream(3);
             x.send(here, 0, 21);
             // On one link after another: the bits stay turned round when the cell moves on.
             for (int part = 0; part < rows[i].length; part++) {
                 int link = part < 2 ? part : 2;
                 x.tamper(here, link, FORWARD, rows[i][part]);
-                x.move(here, part < 2 ? link : -1, FORWARD);
+                if (link < 2) {
+                    x.move(here, link, FORWARD);
+                }
             }
             due("the end of row " + i, x.move(here, 2, FORWARD), undone ? 1 : 2);
             due("the byte of row " + i, x.byteGot(here, 0, FAR_END, 0), undone ? 21 : NOTHING);
