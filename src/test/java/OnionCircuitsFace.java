@@ -38,9 +38,20 @@ public final class OnionCircuitsFace {
         "public int waiting(int,int,boolean)",
         "public int hops(int)");
 
-    private static final String[] BANNED = {
-        "import", "package", "null", "throw", "throws", "try", "catch", "synchronized", "assert", "instanceof",
-        "float", "double", "String", "Math", "Integer", "System", "Arrays", "Object", "enum", "record", "interface"};
+    private static final Map<String, String> BANNED = Map.of(
+        "rule 1", "\\b(enum|record|interface)\\b",
+        "rule 2", "\\b(float|double|var)\\b|\"|\\[]\\s*\\[",
+        "rule 3", "\\b(import|package)\\b|\\b(getClass|hashCode|equals|toString|notify|notifyAll|wait|clone)\\(",
+        "rule 4", "\\bnull\\b|\\[]\\s*\\w+\\s*=\\s*\\{",
+        "rule 5", "\\bstatic\\s*\\{",
+        "rule 6", "\\b(throws?|try|catch|finally|synchronized|assert|instanceof)\\b|->|::|\\(\\w+\\[]\\)");
+    // The constants are written in capitals alone, so any other word with a capital ahead names a class.
+    private static final Pattern CLASS_NAME = Pattern.compile("\\b[A-Z]\\w*[a-z]\\w*\\b");
+    private static final Pattern COUNTED_LOOP = Pattern.compile(
+        "\\bfor \\(int (\\w+) = [^;]+; \\1 < [^;()]+; \\1\\+\\+\\) \\{(.*?)\\n        }", Pattern.DOTALL);
+
+    private static final Set<Class<?>> TYPES = Set.of(int.class, long.class, short.class, byte.class, char.class,
+        boolean.class, int[].class, long[].class, short[].class, byte[].class, char[].class, boolean[].class);
 
     private static final int DEEPEST_CALLS = 6;
     private static final int LONGEST_METHOD = 60;
@@ -88,6 +99,7 @@ public final class OnionCircuitsFace {
     private static void membersKeepToTheRules() {
         int fields = 0;
         for (Field field : OnionCircuits.class.getDeclaredFields()) {
+            dueType(field.getType(), field);
             boolean number = field.getType() == int.class || field.getType() == long.class;
             if (!Modifier.isStatic(field.getModifiers())) {
                 fields++;
@@ -106,13 +118,35 @@ public final class OnionCircuitsFace {
             if (method.getParameterCount() > 7) {
                 complain("rule 10: " + method);
             }
+            for (Class<?> type : method.getParameterTypes()) {
+                dueType(type, method);
+            }
+            if (method.getReturnType() != void.class) {
+                dueType(method.getReturnType(), method);
+            }
+            if (method.getReturnType().isArray()) {
+                complain("rule 4: an array is answered by " + method);
+            }
+        }
+    }
+
+    private static void dueType(Class<?> type, Object member) {
+        if (!TYPES.contains(type)) {
+            complain("rule 2: " + member);
         }
     }
 
     private static void wordsKeepToTheRules(String code) {
-        for (String word : BANNED) {
-            if (Pattern.compile("\\b" + word + "\\b").matcher(code).find()) {
-                complain("LANGUAGE.md bans: " + word);
+        BANNED.forEach((rule, banned) -> {
+            Matcher found = Pattern.compile(banned).matcher(code);
+            while (found.find()) {
+                complain(rule + ": " + found.group());
+            }
+        });
+        Matcher name = CLASS_NAME.matcher(code);
+        while (name.find()) {
+            if (!name.group().equals("OnionCircuits")) {
+                complain("rule 3: " + name.group());
             }
         }
         Matcher made = Pattern.compile("^.*\\bnew\\b.*$", Pattern.MULTILINE).matcher(code);
@@ -124,6 +158,26 @@ public final class OnionCircuitsFace {
         Matcher nested = Pattern.compile("\\b(?!if|for|while|switch|return)\\w+\\([^()]*\\b\\w+\\(").matcher(code);
         while (nested.find()) {
             complain("rule 10: a call inside the arguments of a call: " + nested.group());
+        }
+    }
+
+    // The rules leave more kinds of loop than these, but the class needs none, and here an end is plain to see.
+    private static void loopsKeepToTheRules(String code) {
+        if (Pattern.compile("\\b(while|do)\\b").matcher(code).find()) {
+            complain("rule 8: a loop that doesn't count");
+        }
+        int counted = 0;
+        Matcher loop = COUNTED_LOOP.matcher(code);
+        while (loop.find()) {
+            counted++;
+            String counterSet = "\\b" + loop.group(1) + "(\\+\\+|--|\\s*[^\\w\\s<>=!]?=[^=])";
+            if (Pattern.compile(counterSet).matcher(loop.group(2)).find()) {
+                complain("rule 8: a counter is set inside its loop: " + loop.group());
+            }
+        }
+        long loops = Pattern.compile("\\bfor\\b").matcher(code).results().count();
+        if (counted != loops) {
+            complain("rule 8: of " + loops + " loops, " + counted + " count up to a bound");
         }
     }
 
@@ -171,6 +225,7 @@ public final class OnionCircuitsFace {
         face();
         membersKeepToTheRules();
         wordsKeepToTheRules(code);
+        loopsKeepToTheRules(code);
         callsKeepToTheRules(code);
         System.out.println(wrong == 0 ? "the face is as due" : wrong + " faults in the face");
         if (wrong != 0) {
